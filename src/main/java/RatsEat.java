@@ -19,7 +19,7 @@ public final class RatsEat {
     private static final int MOST_ORDERS = 40320;
     private static final int MOST_ROWS_BEFORE = 194481;
     private static final int ANY_OWNER = -1;
-    private static final int NO_LIMIT = Integer.MAX_VALUE;
+    private static final int NO_LIMIT = 1000000;
 
     private final byte[] text = new byte[MOST_BYTES];
     private int length = 0;
