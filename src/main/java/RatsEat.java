@@ -481,7 +481,7 @@ public final class RatsEat {
                 if (behind == at || behind >= length) {
                     return NONE;
                 }
-                numbers[k] = valueOf(text, at, behind);
+                numbers[k] = numberIn(text, at, behind);
                 if (text[behind] != (k == due - 1 ? ';' : ',')) {
                     return NONE;
                 }
@@ -508,7 +508,7 @@ public final class RatsEat {
             return Math.max(at, end);
         }
 
-        private static int valueOf(byte[] text, int at, int behind) {
+        private static int numberIn(byte[] text, int at, int behind) {
             int value = 0;
             for (int k = at; k < behind; k++) {
                 value = 10 * value + text[k] - '0';
