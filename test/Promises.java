@@ -1,38 +1,5 @@
 /** For each promise of the document ordinary inputs, edges and wrong inputs; the answers are worked out by hand. */
-public final class Promises {
-    private static final int BAD = -1, NO = -2, FULL = -3, NONE = -4;
-    private static final int LOW = Integer.MIN_VALUE, HIGH = Integer.MAX_VALUE;
-    private static int wrong = 0;
-    private static int asked = 0;
-
-    private static void due(String what, int got, int want) {
-        asked++;
-        if (got != want) {
-            wrong++;
-            System.out.println(what + " answered " + got + ", due is " + want);
-        }
-    }
-
-    private static void write(RatsEat x, String text) {
-        for (int k = 0; k < text.length(); k++) {
-            x.write(1, text.charAt(k));
-        }
-    }
-
-    private static RatsEat laid(String text) {
-        RatsEat x = new RatsEat();
-        write(x, text);
-        due("lay of " + text, x.lay() > 0 ? 1 : 0, 1);
-        return x;
-    }
-
-    private static void bins(String what, RatsEat x, int... want) {
-        due(what + ": bins", x.count(0), want.length);
-        for (int b = 0; b < want.length; b++) {
-            due(what + ": bin " + b, x.bin(b, 0), want[b]);
-        }
-    }
-
+public final class Promises extends Checks {
     private static void gaps(String text, int... want) {
         RatsEat x = laid(text);
         due(text + ": gaps", x.count(1), want.length / 2);
@@ -764,9 +731,6 @@ public final class Promises {
         draws();
         kept();
         counts();
-        System.out.println(asked + " answers asked, " + wrong + " are not as due");
-        if (wrong != 0) {
-            System.exit(1);
-        }
+        end();
     }
 }
