@@ -415,8 +415,19 @@ public final class AgainstModel {
         }
     }
 
+    /** Calls of one object; what it answers behind 512 of them is free. */
+    static int used = 0;
+    static int mostUsed = 0;
+
+    static RatsEat made() {
+        used = 0;
+        return new RatsEat();
+    }
+
     static void same(String call, int got, int want) {
         calls++;
+        used++;
+        mostUsed = Math.max(mostUsed, used);
         if (got != want) {
             wrong++;
             if (wrong < 50) System.out.println(call + " answered " + got + ", due is " + want);
@@ -488,8 +499,8 @@ public final class AgainstModel {
             same("bin " + b, x.bin(b, 0), m.bin(b, 0));
             same("bin's owner " + b, x.bin(b, 1), m.bin(b, 1));
         }
-        for (int g = -1; g <= 10; g++)
-            for (int w = -1; w <= 3; w++) same("gap " + g + " " + w, x.gap(g, w), m.gap(g, w));
+        for (int g = -1; g <= m.gaps.size(); g++)
+            for (int w = 0; w <= 2; w++) same("gap " + g + " " + w, x.gap(g, w), m.gap(g, w));
     }
 
     static void cheap(RatsEat x, Model m) {
@@ -537,7 +548,7 @@ public final class AgainstModel {
     }
 
     static void runOf(int lays, int mostBins) {
-        RatsEat x = new RatsEat();
+        RatsEat x = made();
         Model m = new Model();
         for (int k = 0; k < lays; k++) {
             layBoth(x, m, mostBins);
@@ -553,7 +564,7 @@ public final class AgainstModel {
     /** The largest barns, by all kinds, with the dearest numbers. */
     static void largest() {
         for (int k = 0; k < 6; k++) {
-            RatsEat x = new RatsEat();
+            RatsEat x = made();
             Model m = new Model();
             String text = "s" + k % 3 + ";r" + (k + 1) % 4 + "," + (2 + k) + ";w0,1;";
             for (int b = 0; b < 8; b++) text = "b" + upTo(99) + "," + upTo(1) + ";" + text;
@@ -573,6 +584,7 @@ public final class AgainstModel {
         for (int k = 0; k < 12; k++) runOf(1, 8);
         largest();
         System.out.println(calls + " calls against the model, " + wrong + " answers are not as due");
-        if (wrong != 0) System.exit(1);
+        if (mostUsed > 512) System.out.println("an object was used for " + mostUsed + " calls");
+        if (wrong != 0 || mostUsed > 512) System.exit(1);
     }
 }

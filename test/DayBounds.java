@@ -94,6 +94,8 @@ public final class DayBounds extends Checks {
         // Half: 8 and 1 lose 3, then 4 and 2 lose 1; with one pour alone it is 5.
         pours("b9,0;b0,0;r1,0;", 1, 1, 3, 0, 1, 1);
         pours("b9,0;b0,0;r1,0;", 2, 1, 4, 0, 1, 1);
+        // 98 and 1 lose 48, 49 and 2 lose 23; a third night would lose 12.
+        pours("b99,0;b0,0;r1,0;", 2, 1, 71, 0, 1, 1);
         // Nothing is lost without a moon, so one peck ahead of the second night is enough.
         pours("b2,0;b0,0;r3,1;", 2, 1, 0, NONE, NONE, NONE);
         // Two pecks with the moon of the second night: the first of them must go ahead of the first one.

@@ -67,6 +67,8 @@ public final class NightBounds extends Checks {
 
     private static void stillNights() {
         sentence("LOST in n NIGHTS (nothing is lost in one, but in a later one)");
+        due("one in each night", laid("b0,0;b1,0;b1,0;b1,0;").lost(60, -1), 3);
+        due("one, none, then three", laid("b0,0;b1,0;b1,0;b4,0;r3,2;").lost(3, -1), 4);
         due("six still nights, then a moon", laid("b2,0;b0,0;r3,6;").lost(60, -1), 2);
         due("left behind that moon", laid("b2,0;b0,0;r3,6;").left(0, 60), 0);
         due("a moon in each week", laid("b0,0;b1,0;b2,0;b3,0;b4,0;b5,0;b6,0;b7,0;r3,3;").lost(60, -1), 28);
@@ -119,6 +121,8 @@ public final class NightBounds extends Checks {
         order("b0,0;".repeat(7) + "b5,0;w0,1;", 20, 0, 5, 0, 0, 0, 0, 0, 0, 0);
         order("b1,0;b2,0;b3,0;b4,0;b5,0;b6,0;b7,0;b99,0;w0,1;", 1, 6, 99, 1, 2, 3, 4, 5, 6, 7);
         order("b5,0;b0,0;w0,1;", 20, 0, 0, 5);
+        // Of all 40320 the very last one, by the slow model: the next best ones lose four more.
+        order("b9,0;b13,0;b14,0;b30,0;b41,0;b45,0;b46,0;b55,0;s2;w0,1;w0,4;", 2, 131, 55, 46, 45, 41, 30, 14, 13, 9);
         RatsEat x = laid("b0,0;b9,0;b0,0;r0,0;");
         x.pour(1, 0, 4);
         due("poured: lost", x.order(1, -1), 5);

@@ -169,6 +169,54 @@ public final class RefusalBounds extends Checks {
         still("lost", made, x.lost(60, 1), y -> y.lost(60, 1));
     }
 
+    /** Every call that only asks, with its least and its greatest numbers. */
+    private static final Call[] ASKS = {
+        x -> x.left(1, 60), x -> x.lost(60, 0), x -> x.order(20, -1), x -> x.order(1, 0), x -> x.order(2, 1),
+        x -> x.exchanged(0), x -> x.exchanged(1), x -> x.pours(2, 5, 0), x -> x.pours(1, 5, 1), x -> x.pours(2, 1, 2),
+        x -> x.pours(1, 1, 3), x -> x.pours(1, 1, 0), x -> x.corn(31, -1), x -> x.corn(31, 0), x -> x.corn(31, 1),
+        x -> x.corn(1, -1), x -> x.corn(1, 0), x -> x.corn(1, 1), x -> x.cats(1, 20, -1), x -> x.cats(3, 1, 2),
+        x -> x.cats(1, 1, 0), x -> x.cats(2, 20, 1), x -> x.moves(0), x -> x.moves(1), x -> x.moves(2),
+        x -> x.was(20, 6, -1), x -> x.was(20, 0, 0), x -> x.was(9, 1, 1), x -> x.was(0, 0, -1), x -> x.others(0, 60),
+        x -> x.others(3, 1), x -> x.drawn(9999, 60), x -> x.drawn(0, 1), x -> x.ten(9999, 60), x -> x.ten(0, 1),
+        x -> x.fault(), x -> x.count(5), x -> x.gap(0, 2), x -> x.bin(1, 1)};
+    private static final String[] BARNS = {
+        "b2,1;b8,1;b6,0;b1,0;s2;r3,1;c0,5;c1,60;", "b9,0;b0,1;", "b5,0;b5,0;b0,0;w1,2;c0,9;c9,9;", "b4,0;b4,1;s1;",
+        "b7,0;b0,0;b9,1;b3,0;b8,1;s1;r1,4;w0,4;c0,60;c0,1;c30,7;", FORTY, "b3,0;"};
+
+    private static void asksStandAlone() {
+        sentence("What is asked does not hang on what was asked ahead of it");
+        for (String text : BARNS) {
+            RatsEat x = laid(text);
+            for (int round = 0; round < 3; round++) {
+                for (int k = 0; k < ASKS.length; k++) {
+                    int at = round == 1 ? ASKS.length - 1 - k : k;
+                    due("ask " + at + " of " + text, ASKS[at].on(x), ASKS[at].on(laid(text)));
+                }
+            }
+        }
+    }
+
+    private static void asksOfALaterBarn() {
+        sentence("LAID: what was there ahead of it does not matter");
+        String[] ahead = {"b99,1;".repeat(8) + "s2;r1,30;w0,1;c0,60;c0,60;c0,60;c0,60;", "b1,0;", FORTY + "r3,3;w0,1;w2,3;"};
+        for (String text : BARNS) {
+            for (String before : ahead) {
+                RatsEat x = laid(before);
+                x.keep();
+                x.night();
+                x.order(1, 0);
+                x.corn(31, 0);
+                x.cats(1, 1, 0);
+                x.wipe();
+                write(x, text);
+                x.lay();
+                for (int k = 0; k < ASKS.length; k++) {
+                    due("ask " + k + " of " + text + " behind " + before, ASKS[k].on(x), ASKS[k].on(laid(text)));
+                }
+            }
+        }
+    }
+
     public static void main(String[] args) {
         badAheadOfNo();
         badAheadOfNoneByDay();
@@ -178,6 +226,8 @@ public final class RefusalBounds extends Checks {
         badOfSeveral();
         noAndFullChangeNothing();
         asksChangeNothing();
+        asksStandAlone();
+        asksOfALaterBarn();
         end();
     }
 }

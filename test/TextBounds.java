@@ -128,6 +128,24 @@ public final class TextBounds extends Checks {
         fault("b5,0;".repeat(8) + "r0,0;".repeat(52), NONE);
     }
 
+    /** A text without fault of just so many bytes (5 or more). */
+    private static String filled(int length) {
+        String[] first = {"", "s00;", "s000;"};
+        String start = first[length % 3];
+        return start + "s0;".repeat((length - start.length()) / 3);
+    }
+
+    private static void cutAtTheEnd() {
+        sentence("300 at most: an ITEM that is cut by the end of a full TEXT");
+        String[] cuts = {"b", "b1", "b12", "b012", "b0012", "b1,", "b1,0", "b1,00", "b1,000", "b1,0000", "s", "s1", "s01",
+            "s001", "s0001", "x", "c0,1,"};
+        for (String cut : cuts) {
+            int start = 300 - cut.length();
+            fault(filled(start) + cut, start);
+            fault(filled(start), NONE);
+        }
+    }
+
     // ---- promise 3
 
     private static void wipeEmpty() {
@@ -153,6 +171,28 @@ public final class TextBounds extends Checks {
         x.wipe();
         write(x, LONGEST);
         due("full anew", x.write(1, 0), FULL);
+    }
+
+    private static void wipeLeavesNoByte() {
+        sentence("THE TEXT is empty (what was in it is no part of a shorter one)");
+        String[] texts = {"b1,0;b12,1;", "s1;b123,0;", "b1,0;x"};
+        for (String text : texts) {
+            for (int length = 0; length <= text.length(); length++) {
+                RatsEat x = written("b1,0;;;;;;;;");
+                x.wipe();
+                write(x, text);
+                x.wipe();
+                write(x, text.substring(0, length));
+                due("fault of the first " + length + " of " + text, x.fault(), written(text.substring(0, length)).fault());
+            }
+        }
+        RatsEat x = written("b1,0;");
+        x.wipe();
+        write(x, "b1,0");
+        due("without its end", x.fault(), 0);
+        due("lay without its end", x.lay(), NO);
+        write(x, ";");
+        due("with its end", x.fault(), NONE);
     }
 
     private static void wipeLeavesTheBarn() {
@@ -350,6 +390,11 @@ public final class TextBounds extends Checks {
         x.lay();
         due("K 0 behind others", x.lost(1, -1), 50);
         due("V 0 behind others", x.others(2, 1), 50);
+        x = laid("b50,0;b0,0;r1,0;");
+        x.wipe();
+        write(x, "b50,0;b0,0;");
+        x.lay();
+        due("K 0 behind half", x.lost(1, -1), 50);
     }
 
     private static void lastRats() {
@@ -557,8 +602,10 @@ public final class TextBounds extends Checks {
         writeLowest();
         textFull();
         longestText();
+        cutAtTheEnd();
         wipeEmpty();
         wipeFull();
+        wipeLeavesNoByte();
         wipeLeavesTheBarn();
     }
 
