@@ -579,8 +579,8 @@ public final class AgainstModel {
     }
 
     public static void main(String[] args) {
-        for (int k = 0; k < 120; k++) runOf(2, 5);
-        for (int k = 0; k < 120; k++) runOf(2, 4);
+        for (int k = 0; k < 120; k++) runOf(3, 5);
+        for (int k = 0; k < 120; k++) runOf(3, 4);
         for (int k = 0; k < 12; k++) runOf(1, 8);
         largest();
         System.out.println(calls + " calls against the model, " + wrong + " answers are not as due");
