@@ -81,6 +81,9 @@ public final class Face {
             hold(!m.find(), "without " + not);
         }
         hold(text.chars().allMatch(c -> c < 128), "plain signs");
+        for (String line : code.split("\n")) {
+            hold(!line.matches(".*\\bnew\\b.*") || line.matches("\\s*private final \\S+ \\w+ = new .*"), "made with a field: " + line);
+        }
     }
 
     public static void main(String[] args) throws Exception {
